@@ -60,14 +60,13 @@ public final class HermitLadder {
     private final Tray[] trays = new Tray[TRAYS];
     private final Cliff[] imageCliffs = new Cliff[IMAGES];
     private final Pilgrim[] imagePilgrims = new Pilgrim[IMAGES];
-    private final boolean[] imageMade = new boolean[IMAGES];
     private final Laws laws = new Laws(cliff);
     private final Moves moves = new Moves(cliff, laws);
     private final Coming coming = new Coming(moves);
     private final Rows rowCounter;
     private final Gusts gusts;
     private final Slips slipping;
-    private final Sharing sharing = new Sharing(cliff);
+    private final Sharing sharing;
 
     public HermitLadder() {
         for (int i = 0; i < PAST; i++) {
@@ -76,16 +75,15 @@ public final class HermitLadder {
         for (int i = 0; i < TRAYS; i++) {
             trays[i] = new Tray();
         }
-        for (int i = 0; i < IMAGES; i++) {
-            imageCliffs[i] = new Cliff();
-            imagePilgrims[i] = new Pilgrim();
-        }
-        // None of the three needs its rows from one call to the next, so they lie on the same ones.
+        // None of these needs its rows from one call to the next, so they lie on the same ones.
         int[] first = new int[STANDS];
         int[] second = new int[STANDS];
-        rowCounter = new Rows(moves, coming, first);
+        long[] third = new long[STANDS];
+        long[] fourth = new long[STANDS];
+        rowCounter = new Rows(moves, coming, first, third, fourth);
         gusts = new Gusts(cliff, laws, first, second);
-        slipping = new Slips(moves, first, second);
+        slipping = new Slips(cliff, moves, first, second, third, fourth);
+        sharing = new Sharing(cliff, first);
         now.begin(cliff);
     }
 
@@ -712,9 +710,12 @@ public final class HermitLadder {
         if (!isImage(i)) {
             return NO_SUCH;
         }
+        if (imageCliffs[i] == null || imagePilgrims[i] == null) {
+            imageCliffs[i] = new Cliff();
+            imagePilgrims[i] = new Pilgrim();
+        }
         imageCliffs[i].copyFrom(cliff);
         imagePilgrims[i].copyFrom(now);
-        imageMade[i] = true;
         return 0;
     }
 
@@ -722,7 +723,7 @@ public final class HermitLadder {
         if (!isImage(i)) {
             return NO_SUCH;
         }
-        if (!imageMade[i]) {
+        if (imageCliffs[i] == null || imagePilgrims[i] == null) {
             return NOT_NOW;
         }
         cliff.copyFrom(imageCliffs[i]);
@@ -1272,7 +1273,7 @@ public final class HermitLadder {
 
         Laws(Cliff cliff) {
             this.cliff = cliff;
-            Arrays.fill(told, UNTOLD);
+            forget();
         }
 
         void forget() {
@@ -1512,7 +1513,6 @@ public final class HermitLadder {
         final int[] order = new int[STANDS];
         final int[] depth = new int[STANDS];
         private final int[] from = new int[STANDS];
-        private final int[] deed = new int[STANDS];
         int size = 0;
         private boolean known = false;
 
@@ -1546,7 +1546,6 @@ public final class HermitLadder {
                 if (depth[end] == NONE && size < STANDS) {
                     depth[end] = depth[stand] + 1;
                     from[end] = stand;
-                    deed[end] = moves.deeds[i];
                     order[size] = end;
                     size++;
                 }
@@ -1575,7 +1574,17 @@ public final class HermitLadder {
             for (int k = depth[goal] - 1; k > i; k--) {
                 stand = from[stand];
             }
-            return deed[stand];
+            return firstDeed(from[stand], stand);
+        }
+
+        private int firstDeed(int stand, int end) {
+            int found = moves.gather(stand);
+            for (int i = 0; i < found; i++) {
+                if (moves.ends[i] == end) {
+                    return moves.deeds[i];
+                }
+            }
+            return NONE;
         }
 
         int topRungWith(int set) {
@@ -1625,16 +1634,18 @@ public final class HermitLadder {
         private final Moves moves;
         private final Coming coming;
         private final int[] wanted = new int[ROW_DEEDS];
-        private long[] counts = new long[STANDS];
-        private long[] fresh = new long[STANDS];
+        private long[] counts;
+        private long[] fresh;
         /** Bit m: some row stands there behind m deeds. */
         private final int[] levels;
         private int length = 0;
 
-        Rows(Moves moves, Coming coming, int[] levels) {
+        Rows(Moves moves, Coming coming, int[] levels, long[] counts, long[] fresh) {
             this.moves = moves;
             this.coming = coming;
             this.levels = levels;
+            this.counts = counts;
+            this.fresh = fresh;
         }
 
         void wantNothing(int n) {
@@ -1858,22 +1869,26 @@ public final class HermitLadder {
 
     /** How likely a rung is come to by few deeds, if climbs may slip. */
     private static final class Slips {
+        private final Cliff cliff;
         private final Moves moves;
         private final int[] order;
         private final int[] depth;
         private int size = 0;
         /** How likely it is from a stand, in 10 to the power of the deeds that are left. */
-        private int[] likely = new int[STANDS];
-        private int[] fresh = new int[STANDS];
+        private long[] likely;
+        private long[] fresh;
         private int rung = 0;
-        private int whole = 1;
-        private int result = 0;
+        private long whole = 1;
+        private long result = 0;
         int firstDeed = NONE;
 
-        Slips(Moves moves, int[] order, int[] depth) {
+        Slips(Cliff cliff, Moves moves, int[] order, int[] depth, long[] likely, long[] fresh) {
+            this.cliff = cliff;
             this.moves = moves;
             this.order = order;
             this.depth = depth;
+            this.likely = likely;
+            this.fresh = fresh;
         }
 
         void reckon(int start, int target, int n) {
@@ -1928,25 +1943,25 @@ public final class HermitLadder {
             for (int i = 0; i < size && depth[order[i]] <= deeds; i++) {
                 fresh[order[i]] = likeliest(order[i]);
             }
-            int[] old = likely;
+            long[] old = likely;
             likely = fresh;
             fresh = old;
         }
 
         /** The start is the first stand, and the last one that is reckoned with all deeds left. */
-        private int likeliest(int stand) {
+        private long likeliest(int stand) {
             firstDeed = NONE;
             if (rungOf(stand) == rung) {
                 return whole;
             }
-            int greatest = 0;
+            long greatest = 0;
             int found = moves.gather(stand);
             for (int i = 0; i < found; i++) {
-                int v = 10 * likely[moves.ends[i]];
+                int end = moves.ends[i];
+                long v = 10 * likely[end];
                 if (moves.deeds[i] == CLIMB) {
-                    int slips = moves.cliff.slips;
-                    v = slips * likely[slipped(stand, moves.ends[i])]
-                        + (10 - slips) * likely[moves.ends[i]];
+                    long fallen = likely[slipped(stand, end)];
+                    v = cliff.slips * fallen + (10 - cliff.slips) * likely[end];
                 }
                 if (v > greatest) {
                     greatest = v;
@@ -1957,18 +1972,18 @@ public final class HermitLadder {
         }
 
         int numerator() {
-            return result / commonDivisor(result, whole);
+            return (int) (result / commonDivisor(result, whole));
         }
 
         int denominator() {
-            return whole / commonDivisor(result, whole);
+            return (int) (whole / commonDivisor(result, whole));
         }
 
-        private static int commonDivisor(int a, int b) {
-            int x = Math.max(1, b);
-            int y = a;
+        private static long commonDivisor(long a, long b) {
+            long x = b;
+            long y = a;
             for (int i = 0; i < 100 && y != 0; i++) {
-                int rest = x % y;
+                long rest = x % y;
                 x = y;
                 y = rest;
             }
@@ -1982,11 +1997,13 @@ public final class HermitLadder {
 
         private final Cliff cliff;
         /** How many of the things from one on can land while some rungs are taken. */
-        private final int[] can = new int[(THINGS + 1) * USES];
+        private final int[] can;
         private int rungs = 0;
 
-        Sharing(Cliff cliff) {
+        /** The row must have (THINGS + 1) * USES places at least; one by stands has them. */
+        Sharing(Cliff cliff, int[] row) {
             this.cliff = cliff;
+            can = row;
         }
 
         void reckon(int rung, int set) {
