@@ -64,7 +64,6 @@ public final class HermitLadder {
     private final Moves moves = new Moves(cliff, laws);
     private final Coming coming = new Coming(moves);
     private final Rows rowCounter;
-    private final Gusts gusts;
     private final Slips slipping;
     private final Sharing sharing;
 
@@ -81,7 +80,6 @@ public final class HermitLadder {
         long[] third = new long[STANDS];
         long[] fourth = new long[STANDS];
         rowCounter = new Rows(moves, coming, first, third, fourth);
-        gusts = new Gusts(cliff, laws, first, second);
         slipping = new Slips(cliff, moves, first, second, third, fourth);
         sharing = new Sharing(cliff, first);
         now.begin(cliff);
@@ -625,7 +623,13 @@ public final class HermitLadder {
     // ---- gusts, slips
 
     public int withstands(int rung) {
-        return cliff.isRung(rung) ? gusts.withstood(now.stand, rung) : NO_SUCH;
+        if (!cliff.isRung(rung)) {
+            return NO_SUCH;
+        }
+        // A gust takes no more than a rest gives back, and one can always rest: so where one can
+        // come at all, one comes though there are ever so many gusts.
+        coming.explore(now.stand);
+        return coming.goal(rung, 0) == NONE ? NONE : GUSTS;
     }
 
     public int chance(int rung, int n, int what) {
@@ -1771,99 +1775,6 @@ public final class HermitLadder {
                 }
             }
             return NONE;
-        }
-    }
-
-    /** How many gusts can be withstood on the way to a rung. */
-    private static final class Gusts {
-        private final Cliff cliff;
-        private final Laws laws;
-        /** The most gusts for which it is known that the rung is come to from a stand. */
-        private final int[] held;
-        private final int[] queue;
-        private int size = 0;
-
-        Gusts(Cliff cliff, Laws laws, int[] held, int[] queue) {
-            this.cliff = cliff;
-            this.laws = laws;
-            this.held = held;
-            this.queue = queue;
-        }
-
-        int withstood(int start, int rung) {
-            Arrays.fill(held, NONE);
-            int before = NONE;
-            for (int n = 0; n <= GUSTS; n++) {
-                spreadBack(rung, n);
-                if (held[start] < n) {
-                    return n - 1;
-                }
-                // With one gust more nothing was lost, so with still more nothing will be.
-                if (size == before) {
-                    return GUSTS;
-                }
-                before = size;
-            }
-            return GUSTS;
-        }
-
-        /** From the rung back to all stands from which n gusts can't keep him away. */
-        private void spreadBack(int rung, int n) {
-            size = 0;
-            for (int things = 0; things < 1 << cliff.things; things++) {
-                for (int strength = 0; strength <= STRONGEST; strength++) {
-                    hold(standOf(rung, things, strength), n);
-                }
-            }
-            for (int i = 0; i < size && i < STANDS; i++) {
-                holdBefore(queue[i], n);
-            }
-        }
-
-        private void hold(int stand, int n) {
-            if (held[stand] < n && size < STANDS) {
-                held[stand] = n;
-                queue[size] = stand;
-                size++;
-            }
-        }
-
-        /** All stands from which one deed leads to this one. */
-        private void holdBefore(int stand, int n) {
-            int rung = rungOf(stand);
-            int things = thingsOf(stand);
-            int strength = strengthOf(stand);
-            if (strength > 0) {
-                hold(stand - 1, n);
-            }
-            int taken = cliff.gives[rung] & ~cliff.bars[rung];
-            for (int thing = 0; thing < cliff.things; thing++) {
-                boolean has = (things >> thing & 1) != 0;
-                if (!has || (taken >> thing & 1) != 0) {
-                    hold(standOf(rung, things ^ 1 << thing, strength), n);
-                }
-            }
-            if ((cliff.bars[rung] & things) == 0) {
-                if (rung < cliff.top) {
-                    hold(standOf(rung + 1, things, strength), n);
-                }
-                if (rung > 0 && outlastsGust(stand, strength, n)) {
-                    holdBeforeClimb(rung, things, strength, n);
-                }
-            }
-        }
-
-        private boolean outlastsGust(int stand, int strength, int n) {
-            return n == 0 || held[strength > 0 ? stand - 1 : stand] >= n - 1;
-        }
-
-        private void holdBeforeClimb(int rung, int things, int left, int n) {
-            for (int strength = 0; strength <= STRONGEST; strength++) {
-                int below = standOf(rung - 1, things, strength);
-                if (laws.strengthAbove(below) == left) {
-                    hold(below, n);
-                }
-            }
         }
     }
 
