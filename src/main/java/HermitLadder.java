@@ -279,11 +279,9 @@ public final class HermitLadder {
     }
 
     public int perform(int tray) {
-        if (!isTray(tray)) {
-            return NO_SUCH;
-        }
-        if (trays[tray].missing) {
-            return TRAY_MISSING;
+        int code = trayRefused(tray);
+        if (code != 0) {
+            return code;
         }
         int done = follow(trays[tray]);
         if (done > 0) {
@@ -492,25 +490,41 @@ public final class HermitLadder {
     // ---- seen
 
     public long seen(int tray) {
-        int code = trayRefused(tray, SEEN_NUMBERS, NONE, THINGS);
+        int code = tallySeen(tray);
+        return code != 0 ? code : rowCounter.endingOn(NONE, 0);
+    }
+
+    public int seenBy(int tray, int i) {
+        int code = tallySeen(tray);
         if (code != 0) {
             return code;
         }
-        coming.explore(now.stand);
-        rowCounter.want(trays[tray]);
-        rowCounter.tally(now.stand);
-        return rowCounter.endingOn(NONE, 0);
+        return i < 0 ? BAD_NUMBER : rowCounter.deedOfFirst(now.stand, i);
     }
 
-    /** The refusals that trays of numbers have in common, 0 if there is none. */
-    private int trayRefused(int tray, int places, int least, int greatest) {
-        if (!isTray(tray)) {
-            return NO_SUCH;
+    public int surely(int tray) {
+        int code = tallySeen(tray);
+        return code != 0 ? code : rowCounter.commonThings();
+    }
+
+    /** Counts the rows by which it is as seen in a tray; answers a refusal's code, else 0. */
+    private int tallySeen(int tray) {
+        int code = toldRefused(tray, SEEN_NUMBERS, NONE, THINGS);
+        if (code == 0) {
+            coming.explore(now.stand);
+            rowCounter.want(trays[tray]);
+            rowCounter.tally(now.stand);
+        }
+        return code;
+    }
+
+    /** The refusals that trays have in common in which something was told, 0 if there is none. */
+    private int toldRefused(int tray, int places, int least, int greatest) {
+        int code = trayRefused(tray);
+        if (code != 0) {
+            return code;
         }
         Tray told = trays[tray];
-        if (told.missing) {
-            return TRAY_MISSING;
-        }
         if (told.size < 1 || told.size > places) {
             return TOO_MANY;
         }
@@ -522,35 +536,10 @@ public final class HermitLadder {
         return 0;
     }
 
-    public int seenBy(int tray, int i) {
-        int code = trayRefused(tray, SEEN_NUMBERS, NONE, THINGS);
-        if (code != 0) {
-            return code;
-        }
-        if (i < 0) {
-            return BAD_NUMBER;
-        }
-        coming.explore(now.stand);
-        rowCounter.want(trays[tray]);
-        rowCounter.tally(now.stand);
-        return rowCounter.deedOfFirst(now.stand, i);
-    }
-
-    public int surely(int tray) {
-        int code = trayRefused(tray, SEEN_NUMBERS, NONE, THINGS);
-        if (code != 0) {
-            return code;
-        }
-        coming.explore(now.stand);
-        rowCounter.want(trays[tray]);
-        rowCounter.tally(now.stand);
-        return rowCounter.commonThings();
-    }
-
     // ---- tired
 
     public int winds(int tray) {
-        int code = trayRefused(tray, TIRED_NUMBERS, 0, STRONGEST);
+        int code = toldRefused(tray, TIRED_NUMBERS, 0, STRONGEST);
         return code != 0 ? code : windsThatTire(trays[tray]);
     }
 
@@ -579,7 +568,7 @@ public final class HermitLadder {
     }
 
     public int attempt(int tray) {
-        int code = trayRefused(tray, TIRED_NUMBERS, 0, STRONGEST);
+        int code = toldRefused(tray, TIRED_NUMBERS, 0, STRONGEST);
         if (code != 0) {
             return code;
         }
@@ -660,6 +649,13 @@ public final class HermitLadder {
         return tray >= 0 && tray < TRAYS;
     }
 
+    private int trayRefused(int tray) {
+        if (!isTray(tray)) {
+            return NO_SUCH;
+        }
+        return trays[tray].missing ? TRAY_MISSING : 0;
+    }
+
     public int numbers(int tray, int sort, int n) {
         if (!isTray(tray) || sort < 0 || sort > 3) {
             return NO_SUCH;
@@ -672,11 +668,9 @@ public final class HermitLadder {
     }
 
     public long write(int tray, int i, long v) {
-        if (!isTray(tray)) {
-            return NO_SUCH;
-        }
-        if (trays[tray].missing) {
-            return TRAY_MISSING;
+        int code = trayRefused(tray);
+        if (code != 0) {
+            return code;
         }
         if (i < 0 || i >= trays[tray].size) {
             return NO_PLACE;
@@ -1684,8 +1678,13 @@ public final class HermitLadder {
             int before = within(m - 1);
             for (int i = 0; i < before; i++) {
                 int stand = coming.order[i];
-                if (counts[stand] != 0) {
-                    spreadFrom(stand, m);
+                int found = counts[stand] == 0 ? 0 : moves.gather(stand);
+                for (int k = 0; k < found; k++) {
+                    int end = moves.ends[k];
+                    if (isWanted(Integer.bitCount(thingsOf(end)), m)) {
+                        fresh[end] += counts[stand];
+                        levels[end] |= 1 << m;
+                    }
                 }
             }
             long[] old = counts;
@@ -1693,15 +1692,8 @@ public final class HermitLadder {
             fresh = old;
         }
 
-        private void spreadFrom(int stand, int m) {
-            int found = moves.gather(stand);
-            for (int i = 0; i < found; i++) {
-                int end = moves.ends[i];
-                if (wanted[m - 1] == NONE || wanted[m - 1] == Integer.bitCount(thingsOf(end))) {
-                    fresh[end] += counts[stand];
-                    levels[end] |= 1 << m;
-                }
-            }
+        private boolean isWanted(int things, int m) {
+            return wanted[m - 1] == NONE || wanted[m - 1] == things;
         }
 
         private int within(int deeds) {

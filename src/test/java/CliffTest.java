@@ -143,6 +143,9 @@ public final class CliffTest {
         bad(c + "wind 1 2;", 2, 30);
         bad(c + "hole 1 bars 0 wind 1;", 2, 37);
         bad(c + "pilgrim at 1 has 1;", 2, 36);
+        bad(c + "pilgrim;", 2, 30);
+        bad(c + "wizard 1;", 2, 23);
+        bad(c + "may : room > 1;tires : room;", 2, 46);
         bad(c + "tires : room;", 2, 31);
         bad(c + "tires : 1 = 1;", 2, 33);
         bad(c + "tires : 1 +;", 2, 34);

@@ -200,10 +200,13 @@ public final class ComparedTest {
             has = v >= 0 ? v : has;
             same("write(" + t + ", " + i + ", " + v + ")", x.write(t, i, v), m.write(t, i, v));
         }
-        same("seen(" + t + ")", x.seen(t), m.seen(t));
-        same("surely(" + t + ")", x.surely(t), m.surely(t));
-        for (int i = -1; i <= n; i++) {
-            same("seenBy(" + t + ", " + i + ")", x.seenBy(t, i), m.seenBy(t, i));
+        for (int k = 0; k < 4; k++) {
+            int i = below(n + 2) - 1;
+            switch (below(3)) {
+                case 0: same("seen(" + t + ")", x.seen(t), m.seen(t)); break;
+                case 1: same("surely(" + t + ")", x.surely(t), m.surely(t)); break;
+                default: same("seenBy(" + t + ", " + i + ")", x.seenBy(t, i), m.seenBy(t, i)); break;
+            }
         }
     }
 

@@ -64,6 +64,20 @@ public final class SeenTiredTest {
         due("climb, then take", y.seen(0), 1);
         first(y, 1, 20);
         due("surely", y.surely(0), 1);
+        // Each by itself, on an object that was asked nothing else.
+        String text = "cliff rungs 1 things 1;hole 1 gives 0;pilgrim at 0 strength 4;";
+        HermitLadder z = Checks.on(text);
+        Checks.fill(z, 0, 0, 1, 1);
+        due("seenBy by itself", z.seenBy(0, 1), 20);
+        HermitLadder w = Checks.on(text);
+        Checks.fill(w, 0, 0, 1, 1);
+        due("surely by itself", w.surely(0), 1);
+        Checks.fill(w, 0, 0, 0);
+        due("surely anew", w.surely(0), 0);
+        Checks.fill(w, 0, 0, 1);
+        due("seenBy anew", w.seenBy(0, 0), 1);
+        w.act(1);
+        due("seenBy from now on", w.seenBy(0, 0), 0);
     }
 
     private static void seenRefused() {
@@ -133,6 +147,16 @@ public final class SeenTiredTest {
         Checks.fill(y, 0, 2);
         due("one wind alone", y.winds(0), 4);
         due("all are as good, so the first", y.attempt(0), 0);
+        HermitLadder z = Checks.on("cliff rungs 2 things 0;may : wind = 0 or wind > 1;"
+            + "tires : if wind > 1 then 0 else strength + 1 end;pilgrim at 0 strength 2;");
+        Checks.fill(z, 0, 3);
+        due("by no wind a climb, by wind 1 a rest", z.winds(0), 3);
+        due("a climb tells them apart", z.attempt(0), 1);
+        HermitLadder w = Checks.on("cliff rungs 2 things 0;may : wind < 4 or wind > 6;"
+            + "tires : if wind < 4 then 3 else 1 end;pilgrim at 0 strength 0;");
+        Checks.fill(w, 0, 1);
+        due("winds 4 to 9", w.winds(0), 1008);
+        due("winds that can't be don't count", w.attempt(0), 1);
         due("the wind stays", y.count(5), 0);
     }
 
