@@ -6,7 +6,8 @@ public final class EdgesTextTest {
     /** Two rungs and two things, as long. */
     private static final String D = "cliff rungs 2 things 2;";
     /** Every kind of line, flag, law and token, with blanks between all tokens. */
-    private static final String ALL = "cliff rungs 3 things 4 ; hole 0 ; hole 1 bars 0 gives 1 rough 2 ; pilgrim at 1 strength 3 ; "
+    private static final String ALL = "cliff rungs 3 things 4 ; hole 0 ; hole 1 bars 0 gives 1 rough 2 ; "
+        + "pilgrim at 1 strength 3 ; "
         + "pilgrim at 0 strength 2 has 0 has 3 ; wind 4 ; slips 5 ; "
         + "tires : rung + rough - strength * things + ( wind ) - if 1 = 2 then 3 else 4 end ; "
         + "may : not room > 1 and [ 2 < 3 or 1 = 1 ] or ( 5 ) > if not 1 = 1 then 0 else 1 end ;";
@@ -17,6 +18,7 @@ public final class EdgesTextTest {
         tapeFull();
         firstBytes();
         beginsAnew();
+        nothingOfEarlierTexts();
         allStays();
         notSoMany();
         faultAsked();
@@ -94,6 +96,8 @@ public final class EdgesTextTest {
         E.feed(x, text);
         E.go(x, "cliff(25) = -32; fault(1) = 23; count(8) = 0");
         E.feed(x, text);
+        E.go(x, "cliff(26) = -32; fault(1) = 23");
+        E.feed(x, text);
         E.go(x, "cliff(23) = 1; count(8) = 0; count(5) = 0; feed(0, 0, 0, 0, 0) = 20; count(8) = 20");
         E.go(x, "cliff(0) = -32; fault(0) = 2; fault(1) = 0; count(8) = 0");
         // Four digits of which three are read are an N.
@@ -110,12 +114,50 @@ public final class EdgesTextTest {
 
     private static void beginsAnew() {
         E.of(3, "no DEEDS were done, nothing can be UNDONE:");
-        HermitLadder x = E.on(D + "pilgrim at 1 strength 2 has 1;wind 5;", "act(0) = 1; act(1) = 2; wind(7) = 5; act(11) = 2");
+        HermitLadder x = E.on(D + "pilgrim at 1 strength 2 has 1;wind 5;", "act(0) = 1; act(1) = 2; wind(7) = 5",
+            "act(11) = 2");
         E.go(x, "count(6) = 3; count(7) = 4");
         E.due("the same text anew", E.tell(x, D + "pilgrim at 1 strength 2 has 1;wind 5;"), 3);
         E.go(x, "count(6) = 0; count(7) = 0; undo(1) = -3; count(2) = 1; count(3) = 2; count(4) = 2; count(5) = 5");
         E.due("another", E.tell(x, C), 1);
-        E.go(x, "count(0) = 1; count(1) = 0; count(2) = 0; count(3) = 0; count(4) = 4; count(5) = 0; count(6) = 0; undo(1) = -3");
+        E.go(x, "count(0) = 1; count(1) = 0; count(2) = 0; count(3) = 0; count(4) = 4; count(5) = 0; count(6) = 0",
+            "undo(1) = -3");
+    }
+
+    private static void nothingOfEarlierTexts() {
+        E.of(3, "are THE CLIFF,");
+        String rich = "cliff rungs 2 things 2;hole 0 gives 0 rough 1;hole 1 bars 1 rough 9;hole 2 gives 1 rough 5;"
+            + "slips 5;"
+            + "tires : 3;may : not 1 = 1;pilgrim at 1 strength 1 has 0;";
+        HermitLadder x = E.on(rich, "why(1) = 4; by(1, 2) = -5; soonest(2, 0) = -1");
+        E.due("all but the laws", E.tell(x, rich.replace("may : not 1 = 1;", "may : 1 = 1;")), 8);
+        E.go(x, "why(1) = 0; by(1, 2) = 3; soonest(2, 0) = 1; chance(2, 1, 1) = 2");
+        E.due("nothing of it", E.tell(x, D), 1);
+        for (int rung = 0; rung <= 2; rung++) {
+            E.go(x, "hole(" + rung + ", 0) = 0; hole(" + rung + ", 1) = 0; hole(" + rung + ", 2) = 0");
+        }
+        E.go(x, "count(2) = 0; count(3) = 0; count(4) = 4; count(5) = 0; count(9) = 1; by(1, 2) = 3",
+            "chance(1, 1, 1) = 1; habit(2) = 2; count(4) = 2");
+        E.due("the law may alone", E.tell(x, D + "may : strength = 4;"), 2);
+        E.go(x, "by(1, 2) = 3; act(1) = 1; why(1) = 4");
+        E.due("no law", E.tell(x, D), 1);
+        E.go(x, "act(1) = 1; act(1) = 2; count(4) = 2");
+        E.due("the law tires alone", E.tell(x, D + "tires : 0;"), 2);
+        E.go(x, "act(1) = 1; count(4) = 0; why(1) = 4");
+        E.due("no law", E.tell(x, D), 1);
+        E.go(x, "act(1) = 1; count(4) = 3");
+        // Behind a text at fault the next is read from nothing, too.
+        E.due("a fault at the end", E.tell(x, rich + "wind"), -32);
+        E.due("then none", E.tell(x, D), 1);
+        E.go(x, "hole(1, 0) = 0; hole(1, 2) = 0; count(2) = 0; count(9) = 1; act(1) = 1; count(4) = 3",
+            "chance(2, 1, 1) = 1");
+        // Laws that fill a text, one text behind the other.
+        HermitLadder y = E.fresh();
+        for (int i = 0; i < 9; i++) {
+            int strength = i % 5;
+            E.due("a long law", E.tell(y, C + "tires:" + strength + repeated("-1+1", 217) + " ;"), 2);
+            E.go(y, "by(1, 2) = " + strength);
+        }
     }
 
     private static void allStays() {
@@ -129,7 +171,8 @@ public final class EdgesTextTest {
         String fault = "cliff rungs 8 things 6;wind 9;slips 9;tires : 0;may : 1 = 2;hole 1 bars 0 gives 1 rough 9;"
             + "pilgrim at 8 strength 0 has 5;";
         E.due("a fault at the end", E.tell(x, fault + "wind"), -32);
-        E.go(x, "count(0) = 2; count(1) = 2; count(2) = 1; count(3) = 1; count(4) = 3; count(5) = 4; count(6) = 1; count(7) = 2");
+        E.go(x, "count(0) = 2; count(1) = 2; count(2) = 1; count(3) = 1; count(4) = 3; count(5) = 4; count(6) = 1",
+            "count(7) = 2");
         E.go(x, "count(8) = 0; count(9) = 8; hole(1, 0) = 2; hole(1, 1) = 0; hole(1, 2) = 0; why(1) = 0; by(1, 2) = 3");
         E.go(x, "chance(2, 1, 1) = 2; undo(2) = 0; count(2) = 0; count(5) = 1; stands() = 12");
         E.due("no text at all", E.tell(x, ""), -32);
@@ -174,7 +217,8 @@ public final class EdgesTextTest {
         E.go(x, "hole(8, 0) = 63; hole(8, 1) = 0; hole(8, 2) = 9; hole(0, 0) = 0; hole(0, 1) = 63; hole(0, 2) = 1");
         E.go(x, "hole(4, 0) = 32; hole(4, 1) = 1; hole(4, 2) = 0; hole(5, 0) = 0; hole(5, 1) = 0; hole(5, 2) = 0");
         E.of(5, "-2.");
-        E.go(x, "hole(9, 0) = -2; hole(-1, 0) = -2; hole(MAX, 1) = -2; hole(MIN, 2) = -2; hole(0, 3) = -2; hole(0, -1) = -2");
+        E.go(x, "hole(9, 0) = -2; hole(-1, 0) = -2; hole(MAX, 1) = -2; hole(MIN, 2) = -2; hole(0, 3) = -2",
+            "hole(0, -1) = -2");
         E.go(x, "hole(8, MAX) = -2; hole(8, MIN) = -2");
         E.on(C, "hole(1, 0) = 0; hole(2, 0) = -2; hole(8, 0) = -2");
     }
@@ -222,6 +266,21 @@ public final class EdgesTextTest {
                 E.bad(begun.toString(), 2, begun.length());
             }
         }
+        String[] tooShort = {"hole", "hole 1 bars", "hole 1 gives", "hole 1 rough", "hole 1 bars 1 rough", "pilgrim",
+            "pilgrim at", "pilgrim at 1",
+            "pilgrim at 1 strength", "pilgrim at 1 strength 1 has", "pilgrim at 1 strength 1 has 1 has", "wind",
+            "slips", "tires", "tires:", "tires:1+", "tires:1*",
+            "tires:(", "tires:(1", "tires:if", "tires:if 1", "tires:if 1=", "tires:if 1=1", "tires:if 1=1 then",
+            "tires:if 1=1 then 1", "tires:if 1=1 then 1 else",
+            "tires:if 1=1 then 1 else 1", "may", "may:", "may:1", "may:1=", "may:1<", "may:1>", "may:not", "may:[",
+            "may:[1=1", "may:1=1 or", "may:1=1 and"};
+        for (String line : tooShort) {
+            E.bad(D + line + ";", 2, 23 + line.length());
+            E.bad(D + line, 2, 23 + line.length());
+        }
+        E.bad("cliff;", 2, 5);
+        E.bad("cliff rungs;", 2, 11);
+        E.bad("cliff rungs 1 things;", 2, 20);
         E.bad(C + ";", 2, 23);
         E.bad(C + "hole 1 1;", 2, 30);
         E.bad(D + "hole bars 1;", 2, 28);
@@ -251,7 +310,8 @@ public final class EdgesTextTest {
     }
 
     private static void sums() {
-        E.of(7, "SUM: TERM { + TERM | - TERM }; TERM: ATOM { * ATOM }; ATOM: N, ( SUM ), if TRUTH then SUM else SUM end,"
+        E.of(7, "SUM: TERM { + TERM | - TERM }; TERM: ATOM { * ATOM }; ATOM: N, ( SUM ), if TRUTH then SUM else SUM"
+            + " end,"
             + " rung, rough, strength, things, wind, in may room too.");
         tells("9 - 3 - 2 - 1", 3);
         tells("9 - (3 - 2) - 5", 3);
@@ -296,7 +356,8 @@ public final class EdgesTextTest {
     }
 
     private static void truths() {
-        E.of(6, "TRUTH: BOTH { or BOTH }; BOTH: UNIT { and UNIT }; UNIT: not UNIT, [ TRUTH ], or SUM, one of = < >, SUM.");
+        E.of(6, "TRUTH: BOTH { or BOTH }; BOTH: UNIT { and UNIT }; UNIT: not UNIT, [ TRUTH ], or SUM, one of = < >,"
+            + " SUM.");
         holds("1 = 1", true);
         holds("1 = 2", false);
         holds("1 < 2", true);
@@ -317,6 +378,15 @@ public final class EdgesTextTest {
         holds("not [1 = 2 or 1 = 1]", false);
         holds("not 1 = 1 and 1 = 2", false);
         holds("not 1 = 2 and 1 = 2", false);
+        holds("1 < 2 and 2 > 1 and 1 = 1", true);
+        holds("1 = 1 and 1 < 2", true);
+        holds("2 > 1 and 1 = 1", true);
+        holds("1 = 2 or 2 > 1", true);
+        holds("1 < 0 or 2 > 3", false);
+        holds("not 1 < 2", false);
+        holds("not 2 > 1", false);
+        holds("not [1 < 2 and 2 > 1]", false);
+        holds("not 2 < 1", true);
         holds("not not 1 = 1", true);
         holds("not not not 1 = 1", false);
         holds("0 - 1 < 0", true);
@@ -371,17 +441,22 @@ public final class EdgesTextTest {
         E.bad("cliff rungs 1 things 7;", 3, 21);
         E.bad("cliff rungs 999 things 0;", 3, 12);
         E.bad("cliff rungs 1 things 999;", 3, 21);
-        E.go(E.good("cliff rungs 1 things 0;", 1), "count(0) = 1; count(1) = 0; act(1) = 1; act(1) = -12; act(2) = 0; act(2) = -12");
-        E.go(E.good("cliff rungs 8 things 6;hole 0;hole 8;", 3), "count(0) = 8; count(1) = 6; hole(8, 0) = 0; hole(9, 0) = -2",
+        E.go(E.good("cliff rungs 1 things 0;", 1), "count(0) = 1; count(1) = 0; act(1) = 1; act(1) = -12; act(2) = 0",
+            "act(2) = -12");
+        E.go(E.good("cliff rungs 8 things 6;hole 0;hole 8;", 3), "count(0) = 8; count(1) = 6; hole(8, 0) = 0",
+            "hole(9, 0) = -2",
             "habit(12) = 8; why(1) = 2; why(15) = 2; why(16) = 1");
-        E.of(5, "hole: of a RUNG, 0 to the top (a later one of the same RUNG adds): bars, gives: a THING (as many as one likes),"
+        E.of(5, "hole: of a RUNG, 0 to the top (a later one of the same RUNG adds): bars, gives: a THING (as many as"
+            + " one likes),"
             + " rough 0 to 9 (0; a later one strikes).");
         E.bad(D + "hole 3;", 3, 28);
         E.bad(D + "hole 2 bars 2;", 3, 35);
         E.bad(D + "hole 2 gives 2;", 3, 36);
         E.bad(D + "hole 2 rough 10;", 3, 36);
-        E.go(E.good(D + "hole 0 bars 0;hole 2 bars 1;hole 0 bars 1 gives 0;hole 2;", 5), "hole(0, 0) = 3; hole(0, 1) = 1; hole(2, 0) = 2");
-        E.go(E.good(D + "hole 1 bars 0 bars 0 bars 1 gives 1 gives 1;", 2), "hole(1, 0) = 3; hole(1, 1) = 2; hole(1, 2) = 0");
+        E.go(E.good(D + "hole 0 bars 0;hole 2 bars 1;hole 0 bars 1 gives 0;hole 2;", 5), "hole(0, 0) = 3",
+            "hole(0, 1) = 1; hole(2, 0) = 2");
+        E.go(E.good(D + "hole 1 bars 0 bars 0 bars 1 gives 1 gives 1;", 2), "hole(1, 0) = 3; hole(1, 1) = 2",
+            "hole(1, 2) = 0");
         E.go(E.good(D + "hole 1 rough 9;hole 1;hole 2 rough 9 rough 0;hole 0 rough 1;hole 0 rough 8;hole 0 bars 1;", 7),
             "hole(1, 2) = 9; hole(2, 2) = 0; hole(0, 2) = 8");
     }
@@ -394,7 +469,8 @@ public final class EdgesTextTest {
         E.on(D, "count(2) = 0; count(3) = 0; count(4) = 4");
         E.on(D + "pilgrim at 0 strength 0;", "count(2) = 0; count(3) = 0; count(4) = 0");
         E.on(D + "pilgrim at 2 strength 4 has 0 has 1 has 0;", "count(2) = 2; count(3) = 3; count(4) = 4");
-        E.on(D + "hole 1 bars 1;pilgrim at 1 strength 4 has 1;", "count(2) = 1; count(3) = 2; act(0) = 1; act(1) = 2; act(2) = -13");
+        E.on(D + "hole 1 bars 1;pilgrim at 1 strength 4 has 1;", "count(2) = 1; count(3) = 2; act(0) = 1; act(1) = 2",
+            "act(2) = -13");
         E.on(D + "pilgrim at 1 strength 4 has 1;hole 1 bars 1;", "count(3) = 2; act(2) = 0; act(1) = -13");
         E.of(40, "wind 0 to 9 (0), slips: how likely one slips, in 10, 0 to 10 (0).");
         E.bad(D + "wind 10;", 3, 28);
@@ -410,7 +486,8 @@ public final class EdgesTextTest {
 
     private static void laterOnesStrike() {
         E.of(3, "Later ones of pilgrim, wind, slips, tires, may strike.");
-        E.on(D + "pilgrim at 2 strength 1 has 0;pilgrim at 1 strength 2 has 1;", "count(2) = 1; count(3) = 2; count(4) = 2");
+        E.on(D + "pilgrim at 2 strength 1 has 0;pilgrim at 1 strength 2 has 1;", "count(2) = 1; count(3) = 2",
+            "count(4) = 2");
         E.on(D + "pilgrim at 2 strength 1 has 0;pilgrim at 0 strength 0;", "count(2) = 0; count(3) = 0; count(4) = 0");
         E.on(D + "wind 9;wind 0;", "count(5) = 0");
         E.on(D + "slips 10;slips 0;", "chance(1, 1, 0) = 1");
@@ -461,7 +538,8 @@ public final class EdgesTextTest {
     }
 
     private static void faultsInOrder() {
-        E.of(4, "FAULTS, the first along the text, of one TOKEN the least kind: 1 no TOKEN begins so (4 digits and more: at their first).");
+        E.of(4, "FAULTS, the first along the text, of one TOKEN the least kind: 1 no TOKEN begins so (4 digits and"
+            + " more: at their first).");
         E.bad("cliff rungs 9 things 9 # (", 3, 12);
         E.bad("cliff rungs 8 things 9 # (", 3, 21);
         E.bad("cliff rungs 8 things 6 # (", 1, 23);
@@ -500,7 +578,8 @@ public final class EdgesTextTest {
     }
 
     private static void cannotStand() {
-        E.of(4, "2 it can't stand there (the end: the text's length; cliff must be told first, and once; room in tires).");
+        E.of(4, "2 it can't stand there (the end: the text's length; cliff must be told first, and once; room in"
+            + " tires).");
         E.bad("", 2, 0);
         E.bad(" ", 2, 1);
         E.bad("\n\n \n", 2, 4);

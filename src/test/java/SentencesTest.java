@@ -2,6 +2,7 @@ import java.io.IOException;
 import java.nio.charset.StandardCharsets;
 import java.nio.file.Files;
 import java.nio.file.Path;
+import java.util.Arrays;
 import java.util.List;
 import java.util.Map;
 import java.util.TreeMap;
@@ -36,7 +37,7 @@ public final class SentencesTest {
         boolean quote(String words) {
             int at = text.indexOf(words);
             for (int from = at; from >= 0; from = text.indexOf(words, from + 1)) {
-                java.util.Arrays.fill(quoted, from, from + words.length(), true);
+                Arrays.fill(quoted, from, from + words.length(), true);
             }
             return at >= 0;
         }
@@ -59,7 +60,8 @@ public final class SentencesTest {
         CHECKS.due("the document's promises", all.size() - 1, PROMISES);
         int[] tests = new int[PROMISES + 1];
         try (Stream<Path> files = Files.list(Path.of("src/test/java"))) {
-            List<Path> edges = files.filter(f -> f.getFileName().toString().matches("Edges\\w+\\.java")).collect(Collectors.toList());
+            List<Path> edges = files.filter(f -> f.getFileName().toString().matches("Edges\\w+\\.java"))
+                .collect(Collectors.toList());
             for (Path file : edges) {
                 quotes(Files.readString(file, StandardCharsets.UTF_8), all, tests);
             }
@@ -83,7 +85,8 @@ public final class SentencesTest {
                 words.append(part.group(1));
             }
             boolean there = all.containsKey(promise) && all.get(promise).quote(words.toString());
-            CHECKS.holds("promise " + promise + " or the terms say: " + words, there || all.get(0).quote(words.toString()));
+            CHECKS.holds("promise " + promise + " or the terms say: " + words,
+                there || all.get(0).quote(words.toString()));
             tests[promise] += there ? 1 : 0;
         }
     }
@@ -99,7 +102,8 @@ public final class SentencesTest {
         Matcher used = Pattern.compile("An object is used[^\n]*").matcher(doc);
         Matcher terms = Pattern.compile("(?s)## Terms\n(.*?)\nAhead of the calls").matcher(doc);
         Matcher not = Pattern.compile("Nothing is promised[^\n]*").matcher(doc);
-        String others = (used.find() ? used.group() : "") + " " + (terms.find() ? terms.group(1) : "") + " " + (not.find() ? not.group() : "");
+        String others = (used.find() ? used.group() : "") + " " + (terms.find() ? terms.group(1) : "") + " "
+            + (not.find() ? not.group() : "");
         all.put(0, new Stretch("the terms", plain(others.replace("The constants:", ""))));
         return all;
     }
